@@ -391,6 +391,16 @@ public final class Powerwell {
         return number < least || number > greatest;
     }
 
+    /** All in the row go one place on, and the last one is gone. */
+    private static void putFirst(long[] row, long first) {
+        for (int i = row.length - 1; i > 0; i--) {
+            row[i] = row[i - 1];
+        }
+        if (row.length > 0) {
+            row[0] = first;
+        }
+    }
+
     private Rail railAt(int number) throws IndexOutOfBoundsException {
         if (number < 0 || number >= rails.size()) {
             throw new IndexOutOfBoundsException("no such rail");
@@ -745,8 +755,7 @@ public final class Powerwell {
         }
 
         private void remember(long energy) {
-            System.arraycopy(energies, 0, energies, 1, energies.length - 1);
-            energies[0] = energy;
+            putFirst(energies, energy);
         }
 
         // Between the trip and its margin a rail stays as it is, throttled or not.
@@ -935,7 +944,7 @@ public final class Powerwell {
     private static final class Idleness {
         private final int tolerance;
         /** The last stays, the newest one first. */
-        private final int[] stays = new int[STAYS];
+        private final long[] stays = new long[STAYS];
         private int stayCount;
         /** null stands for none. */
         private Depth depth;
@@ -952,23 +961,27 @@ public final class Powerwell {
             if (stayCount <= 0) {
                 return 0;
             }
-            int sum = 0;
+            long sum = 0;
             for (int i = 0; i < stayCount && i < stays.length; i++) {
                 sum += stays[i];
             }
-            return sum / stayCount;
+            return (int) (sum / stayCount);
         }
 
         private void beginStay(int time, ArrayList<Depth> depths) {
             since = time;
-            depth = null;
+            depth = deepest(depths);
+        }
+
+        private Depth deepest(ArrayList<Depth> depths) {
             int guess = meanStay();
-            for (int i = 0; i < depths.size(); i++) {
+            for (int i = depths.size() - 1; i >= 0; i--) {
                 Depth next = depths.get(i);
                 if (next.least <= guess && next.cost <= tolerance) {
-                    depth = next;
+                    return next;
                 }
             }
+            return null;
         }
 
         private void endStay(int time) {
@@ -980,8 +993,7 @@ public final class Powerwell {
         }
 
         private void addStay(int stay) {
-            System.arraycopy(stays, 0, stays, 1, stays.length - 1);
-            stays[0] = stay;
+            putFirst(stays, stay);
             stayCount = Math.min(STAYS, stayCount + 1);
             if (depth != null && stay < depth.least) {
                 misses++;

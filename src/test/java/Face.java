@@ -28,10 +28,17 @@ final class Face {
         try {
             return String.valueOf(method.invoke(chip, arguments));
         } catch (InvocationTargetException thrown) {
-            return "throws." + thrown.getCause().getClass().getSimpleName();
+            return thrower(thrown.getCause()) + "throws." + thrown.getCause().getClass().getSimpleName();
         } catch (IllegalAccessException | IllegalArgumentException wrong) {
             return "can't be called: " + wrong;
         }
+    }
+
+    /** Nothing, if the class itself threw it: what a library throws out of it does not count as an answer. */
+    private static String thrower(Throwable thrown) {
+        StackTraceElement[] frames = thrown.getStackTrace();
+        String owner = frames.length == 0 ? "the machine" : frames[0].getClassName();
+        return owner.startsWith("Powerwell") ? "" : owner + " ";
     }
 
     /** All that can be seen of a chip without a change to it. */

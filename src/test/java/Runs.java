@@ -82,7 +82,7 @@ final class Runs {
         boolean isRefused = due != null && due.startsWith("throws.");
         String before = isRefused ? Face.view(chip) : "";
         String got = Face.answer(chip, name, arguments);
-        if (due == null ? got.startsWith("throws.") || got.contains(" ") : !due.equals(got)) {
+        if (due == null ? got.contains("throws.") || got.contains(" ") : !due.equals(got)) {
             outcome.fault(what + " answered " + got);
         }
         if (isRefused) {
