@@ -20,7 +20,9 @@ final class ModelTest {
         "get", "get", "get", "put", "put", "put", "tick", "tick", "tick", "work", "write", "write", "vote", "vote",
         "wake", "wake", "wake", "sleep", "mask", "arm", "arm", "trip", "budget", "need",
     };
-    private static final int[] EXTREMES = {Integer.MIN_VALUE, -2, -1, 0, 1, 3, 6, 8, 10, 99, 100, 9999, 100000, Integer.MAX_VALUE};
+    private static final int[] EXTREMES = {
+        Integer.MIN_VALUE, -2, -1, 0, 1, 3, 6, 8, 10, 99, 100, 9999, 100000, Integer.MAX_VALUE,
+    };
 
     /** What the arguments of each method are: its kinds, and how far they reach. */
     private static final Map<String, String> KINDS = kinds();
@@ -119,7 +121,8 @@ final class ModelTest {
         return chance < 50 ? BUILDS[below(BUILDS.length)] : USES[below(USES.length)];
     }
 
-    private void compare(Outcome outcome, Powerwell chip, Model model, StringBuilder told, String name, Object[] arguments) {
+    private void compare(
+            Outcome outcome, Powerwell chip, Model model, StringBuilder told, String name, Object[] arguments) {
         String due = model.answer(name, arguments);
         boolean isRefused = due.startsWith("throws.");
         String before = isRefused ? Face.view(chip) : "";
