@@ -10,6 +10,7 @@ public final class AllTests {
         List<Outcome> outcomes = new ArrayList<>();
         outcomes.addAll(FaceTest.all());
         outcomes.addAll(new Runs().all());
+        outcomes.addAll(RangesTest.all());
         outcomes.addAll(ModelTest.all());
         outcomes.addAll(RoomTest.all());
         int failed = 0;

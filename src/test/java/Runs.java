@@ -1,8 +1,12 @@
 import java.io.IOException;
+import java.lang.reflect.Method;
+import java.lang.reflect.Modifier;
 import java.nio.file.Files;
 import java.nio.file.Path;
 import java.util.ArrayList;
 import java.util.List;
+import java.util.Set;
+import java.util.TreeSet;
 import java.util.regex.Matcher;
 import java.util.regex.Pattern;
 import java.util.stream.Stream;
@@ -11,10 +15,11 @@ import java.util.stream.Stream;
  * The runs of calls in src/test/runs, written as the document writes its examples. A line "run 4: ..." begins
  * a test of promise 4 on a new object ("run -: ..." one of no single promise); a line that begins with # is
  * a remark; all others hold calls with their answers, parted by ";". An answer that is left out may be any value.
+ * Behind "get(0) x 9 = 9" stands the answer of the last of nine calls.
  */
 final class Runs {
     private static final Pattern HEAD = Pattern.compile("run (\\d+|-): (.+)");
-    private static final Pattern CALL = Pattern.compile("(\\w+)\\(([^)]*)\\)(?: = (\\S+))?");
+    private static final Pattern CALL = Pattern.compile("(\\w+)\\(([^)]*)\\)(?: x (\\d+))?(?: = (\\S+))?");
     private static final int PROMISES = 41;
     private static final int CALLS = 512;
 
@@ -23,6 +28,15 @@ final class Runs {
     private Outcome outcome;
     private Powerwell chip;
     private int calls;
+    /** What was called in this run and not refused. */
+    private final List<Call> taken = new ArrayList<>();
+    private final Set<String> refusals = new TreeSet<>();
+
+    private record Call(String name, Object[] arguments) {
+        String on(Powerwell chip) {
+            return Face.answer(chip, name, arguments);
+        }
+    }
 
     List<Outcome> all() throws IOException {
         try (Stream<Path> files = Files.list(Path.of("src/test/runs"))) {
@@ -31,6 +45,7 @@ final class Runs {
             }
         }
         outcomes.add(everyPromiseIsTested());
+        outcomes.add(everyExceptionWasMet());
         return outcomes;
     }
 
@@ -54,6 +69,7 @@ final class Runs {
         outcomes.add(outcome);
         chip = new Powerwell();
         calls = 0;
+        taken.clear();
         if (!promise.equals("-")) {
             isTested[Integer.parseInt(promise)] = true;
         }
@@ -66,28 +82,56 @@ final class Runs {
         for (String text : line.split(";")) {
             Matcher call = CALL.matcher(text.strip());
             if (call.matches()) {
-                runCall(place + ": " + text.strip(), call.group(1), arguments(call.group(2)), call.group(3));
+                Call read = new Call(call.group(1), arguments(call.group(2)));
+                int times = call.group(3) == null ? 1 : Integer.parseInt(call.group(3));
+                runCalls(place + ": " + text.strip(), read, times, call.group(4));
             } else if (!text.isBlank()) {
                 outcome.fault(place + ": can't be read: " + text);
             }
         }
     }
 
-    private void runCall(String what, String name, Object[] arguments, String due) {
+    private void runCalls(String what, Call call, int times, String due) {
+        for (int i = 1; i < times; i++) {
+            runCall(what + " (" + i + ")", call, null);
+        }
+        runCall(what, call, due);
+    }
+
+    private void runCall(String what, Call call, String due) {
         calls++;
         if (calls > CALLS) {
             outcome.fault(what + " is beyond the 512th call");
             return;
         }
-        boolean isRefused = due != null && due.startsWith("throws.");
-        String before = isRefused ? Face.view(chip) : "";
-        String got = Face.answer(chip, name, arguments);
+        if (due != null && due.startsWith("throws.")) {
+            runRefused(what, call, due);
+            return;
+        }
+        String got = call.on(chip);
         if (due == null ? got.contains("throws.") || got.contains(" ") : !due.equals(got)) {
             outcome.fault(what + " answered " + got);
         }
-        if (isRefused) {
-            outcome.same("what is seen behind " + what, Face.view(chip), before);
+        taken.add(call);
+    }
+
+    /** A call that throws changes nothing, neither what is seen at once nor how the chip goes on. */
+    private void runRefused(String what, Call call, String due) {
+        String before = Face.view(chip);
+        outcome.same(what, call.on(chip), due);
+        outcome.same("what is seen behind " + what, Face.view(chip), before);
+        Powerwell refusing = again();
+        call.on(refusing);
+        outcome.same("how the chip goes on behind " + what, Probe.of(refusing), Probe.of(again()));
+        refusals.add(call.name() + " " + due);
+    }
+
+    private Powerwell again() {
+        Powerwell twin = new Powerwell();
+        for (Call call : taken) {
+            call.on(twin);
         }
+        return twin;
     }
 
     private static Object[] arguments(String text) {
@@ -116,6 +160,20 @@ final class Runs {
         Outcome all = new Outcome("every promise has a run");
         for (int promise = 1; promise <= PROMISES; promise++) {
             all.same("promise " + promise + " has a run", isTested[promise], true);
+        }
+        return all;
+    }
+
+    private Outcome everyExceptionWasMet() {
+        Outcome all = new Outcome("every exception of the face is met in a run");
+        for (Method method : Powerwell.class.getDeclaredMethods()) {
+            if (!Modifier.isPublic(method.getModifiers())) {
+                continue;
+            }
+            for (Class<?> thrown : method.getExceptionTypes()) {
+                String refusal = method.getName() + " throws." + thrown.getSimpleName();
+                all.same("that a run has " + refusal, refusals.contains(refusal), true);
+            }
         }
         return all;
     }
