@@ -20,7 +20,7 @@ final class RangesTest {
         test.numbers();
         test.things();
         test.rules();
-        test.endsOfCounts();
+        test.mostOfEach();
         return test.outcomes;
     }
 
@@ -128,15 +128,15 @@ final class RangesTest {
         }
     }
 
-    private void endsOfCounts() {
-        manyOf("promise 2: at most 3 rails, numbered from 0", 3, STATE, 0, "rail", 5, 'g');
-        manyOf("promise 8: at most 8 domains, numbered from 0", 8, STATE, 0, "domain", -1, 0, false);
-        manyOf("promise 15: at most 10 devices, numbered from 0", 10, STATE, 0, "device", 0, 0, 0);
-        manyOf("promise 23: at most 4 depths, numbered from 0", 4, STATE, 0, "depth", 5, 5);
-        manyOf("promise 31: at most 6 sources, numbered from 0", 6, STATE, 0, "source");
+    private void mostOfEach() {
+        manyOf("promise 2: at most 3 rails, numbered from 0", 3, "rail", 5, 'g');
+        manyOf("promise 8: at most 8 domains, numbered from 0", 8, "domain", -1, 0, false);
+        manyOf("promise 15: at most 10 devices, numbered from 0", 10, "device", 0, 0, 0);
+        manyOf("promise 23: at most 4 depths, numbered from 0", 4, "depth", 5, 5);
+        manyOf("promise 31: at most 6 sources, numbered from 0", 6, "source");
     }
 
-    private void manyOf(String title, int most, String refusal, int first, String name, Object... arguments) {
+    private void manyOf(String title, int most, String name, Object... arguments) {
         Outcome outcome = begin(title);
         Powerwell chip = new Powerwell();
         if (!name.equals("rail")) {
@@ -146,10 +146,10 @@ final class RangesTest {
             chip.domain(-1, 0, true);
         }
         for (int i = 0; i < most; i++) {
-            outcome.same(name + " number " + (i + 1), Face.answer(chip, name, arguments), "" + (first + i));
+            outcome.same(name + " number " + (i + 1), Face.answer(chip, name, arguments), "" + i);
         }
         for (int i = 0; i < 300; i++) {
-            outcome.same(name + " beyond the last one", Face.answer(chip, name, arguments), refusal);
+            outcome.same(name + " beyond the last one", Face.answer(chip, name, arguments), STATE);
         }
     }
 }

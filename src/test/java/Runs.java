@@ -15,15 +15,17 @@ import java.util.stream.Stream;
  * The runs of calls in src/test/runs, written as the document writes its examples. A line "run 4: ..." begins
  * a test of promise 4 on a new object ("run -: ..." one of no single promise); a line that begins with # is
  * a remark; all others hold calls with their answers, parted by ";". An answer that is left out may be any value.
- * Behind "get(0) x 9 = 9" stands the answer of the last of nine calls.
+ * Behind "get(0) x 9 = 9" stands the answer of the last of nine calls. What a title quotes stands in the document.
  */
 final class Runs {
     private static final Pattern HEAD = Pattern.compile("run (\\d+|-): (.+)");
     private static final Pattern CALL = Pattern.compile("(\\w+)\\(([^)]*)\\)(?: x (\\d+))?(?: = (\\S+))?");
+    private static final Pattern QUOTE = Pattern.compile("\"([^\"]*)\"");
     private static final int PROMISES = 41;
     private static final int CALLS = 512;
 
     private final List<Outcome> outcomes = new ArrayList<>();
+    private final String document = plain(Files.readString(Path.of("../shared/DOC.md")));
     private final boolean[] isTested = new boolean[PROMISES + 1];
     private Outcome outcome;
     private Powerwell chip;
@@ -36,6 +38,13 @@ final class Runs {
         String on(Powerwell chip) {
             return Face.answer(chip, name, arguments);
         }
+    }
+
+    Runs() throws IOException {
+    }
+
+    private static String plain(String text) {
+        return text.replace("`", "").replaceAll("\\s+", " ");
     }
 
     List<Outcome> all() throws IOException {
@@ -70,6 +79,10 @@ final class Runs {
         chip = new Powerwell();
         calls = 0;
         taken.clear();
+        Matcher quote = QUOTE.matcher(title);
+        while (quote.find()) {
+            outcome.same("that the document has: " + quote.group(1), document.contains(quote.group(1)), true);
+        }
         if (!promise.equals("-")) {
             isTested[Integer.parseInt(promise)] = true;
         }
