@@ -9,6 +9,7 @@ public final class AllTests {
     public static void main(String[] args) throws Exception {
         List<Outcome> outcomes = new ArrayList<>();
         outcomes.addAll(FaceTest.all());
+        outcomes.addAll(ReadmeTest.all());
         outcomes.addAll(new Runs().all());
         outcomes.addAll(RangesTest.all());
         outcomes.addAll(ModelTest.all());

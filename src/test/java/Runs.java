@@ -16,6 +16,8 @@ import java.util.stream.Stream;
  * a test of promise 4 on a new object ("run -: ..." one of no single promise); a line that begins with # is
  * a remark; all others hold calls with their answers, parted by ";". An answer that is left out may be any value.
  * Behind "get(0) x 9 = 9" stands the answer of the last of nine calls. What a title quotes stands in the document.
+ * What stands behind "says" are the words of "Terms", all of them, one behind the other. The examples of the
+ * document are run as they stand there.
  */
 final class Runs {
     private static final Pattern HEAD = Pattern.compile("run (\\d+|-): (.+)");
@@ -26,6 +28,7 @@ final class Runs {
 
     private final List<Outcome> outcomes = new ArrayList<>();
     private final String document = plain(Files.readString(Path.of("../shared/DOC.md")));
+    private final StringBuilder said = new StringBuilder();
     private final boolean[] isTested = new boolean[PROMISES + 1];
     private Outcome outcome;
     private Powerwell chip;
@@ -48,14 +51,33 @@ final class Runs {
     }
 
     List<Outcome> all() throws IOException {
+        runExamples();
         try (Stream<Path> files = Files.list(Path.of("src/test/runs"))) {
             for (Path file : files.sorted().toList()) {
                 runFile(file);
             }
         }
+        outcomes.add(allTermsAreSaid());
         outcomes.add(everyPromiseIsTested());
         outcomes.add(everyExceptionWasMet());
         return outcomes;
+    }
+
+    private void runExamples() {
+        int number = 0;
+        for (String example : between("result. - ", " ## Promise 1:").split("\\. - ")) {
+            number++;
+            begin("-", "example " + number + " of the document");
+            runLine(example.replaceAll("\\.$", ""), "example " + number);
+            outcome.same("that the example has calls", calls > 0, true);
+        }
+    }
+
+    /** Nothing, if the document lacks one of the two, which the tests notice by what is missing then. */
+    private String between(String first, String last) {
+        int from = document.indexOf(first);
+        int to = document.indexOf(last);
+        return from < 0 || to < from ? "" : document.substring(from + first.length(), to);
     }
 
     private void runFile(Path file) throws IOException {
@@ -67,6 +89,8 @@ final class Runs {
             Matcher head = HEAD.matcher(line);
             if (head.matches()) {
                 begin(head.group(1), place + " promise " + head.group(1) + ": " + head.group(2));
+            } else if (line.startsWith("says ")) {
+                said.append(line.substring("says".length()));
             } else if (!line.isBlank() && !line.startsWith("#")) {
                 runLine(line, place);
             }
@@ -147,7 +171,7 @@ final class Runs {
         return twin;
     }
 
-    private static Object[] arguments(String text) {
+    static Object[] arguments(String text) {
         if (text.isBlank()) {
             return new Object[0];
         }
@@ -167,6 +191,12 @@ final class Runs {
             return text.charAt(1);
         }
         return Integer.valueOf(text);
+    }
+
+    private Outcome allTermsAreSaid() {
+        Outcome all = new Outcome("all terms of the document have a run");
+        all.same("what the runs say", said.toString().strip(), between("## Terms ", " Examples:"));
+        return all;
     }
 
     private Outcome everyPromiseIsTested() {
